@@ -87,6 +87,13 @@ public final class CommitsTest {
     copied = x.copied();
     check.due("both as they were", 2, x.crash());
     check.due("are copied, too, with one root", copied + 3, x.copied());
+    x.write(0, 0, 4, 1, 1, 0);
+    x.write(0, 0, 4, 1, 1, 0);
+    check.due("once more behind the crash", copied + 5, x.copied());
+    x.unlink(0, 0);
+    x.unlink(0, 1);
+    x.commit();
+    check.due("and all is free without them", 80, x.free(0) + x.free(1));
   }
 
   private static void crashWithNames() {
@@ -388,6 +395,54 @@ public final class CommitsTest {
     check.due("none is left", 0, x.free(0) + x.free(1));
   }
 
+  private static void receiveWhenFull() {
+    Treebark x = new Treebark();
+    for (int name = 0; name < 4; name++) {
+      x.create(0, name);
+    }
+    x.branch(0, true);
+    for (int i = 0; i < 12; i++) {
+      x.write(0, i / 4, i % 4 * 4, 4, 10 * i, 1);
+    }
+    x.branch(0, true);
+    x.send(1, 2);
+    // Two of the three files fit: their nodes were to be copied.
+    check.state(x, "it is full", () -> x.receive(1));
+    x.drop(2);
+    x.unlink(0, 0);
+    int copied = x.copied();
+    check.due("it is not", 2, x.receive(1));
+    check.due("the root and three nodes", copied + 4, x.copied());
+  }
+
+  private static void receiveTheLastOne() {
+    Treebark x = new Treebark();
+    x.create(0, 0);
+    x.create(0, 1);
+    x.write(0, 1, 0, 1, 1, 0);
+    x.branch(0, true);
+    x.limits(0, 0, 0);
+    x.branch(0, true);
+    x.drop(2);
+    x.limits(0, 1000, 1000);
+    x.write(0, 0, 0, 2, 5, 1);
+    x.write(0, 1, 1, 2, 7, 1);
+    x.branch(0, true);
+    for (int i = 0; i < 8; i++) {
+      check.due("sent once more", i % 3 == 0 ? 4 : 0, i % 3 == 0 ? x.send(1, 2) : x.send(2, 2));
+    }
+    check.due("the other way round", 4, x.send(2, 1));
+    check.due("the last one", 4, x.send(1, 2));
+    x.branch(0, false);
+    x.limits(3, 0, 0);
+    x.drop(3);
+    check.due("in place of one with limits", 3, x.receive(1));
+    check.due("it is alike", true, x.areAlike(2, 3));
+    check.due("files are those there", 1, x.file(3, 1));
+    x.branch(3, false);
+    check.due("limits are 1000", 4, x.write(4, 0, 12, 4, 1, 1));
+  }
+
   private static void receiveByProfile() {
     Treebark x = new Treebark();
     x.create(0, 0);
@@ -420,6 +475,8 @@ public final class CommitsTest {
     receiveLike();
     receiveNames();
     receiveWrongly();
+    receiveWhenFull();
+    receiveTheLastOne();
     receiveByProfile();
     check.end();
   }

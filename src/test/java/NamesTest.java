@@ -72,6 +72,16 @@ public final class NamesTest {
     check.due("unlink(0, 1)", 0, x.unlink(0, 1));
     check.due("its blocks are free", 40, x.free(0));
     check.due("file(0, 1)", Treebark.NONE, x.file(0, 1));
+    for (int name = 0; name < 10; name++) {
+      x.create(0, name);
+    }
+    check.due("of all ten names", 0, x.unlink(0, 4));
+    check.due("nine are left", 1023 - 16, x.ofTree(0, 0));
+    for (int name = 0; name < 10; name++) {
+      if (name != 4) {
+        x.unlink(0, name);
+      }
+    }
     x.create(0, 1);
     x.write(0, 1, 0, 4, 5, 1);
     x.commit();
@@ -127,6 +137,10 @@ public final class NamesTest {
     rename(x, 0, 2, 3, false);
     check.due("a file with another name stays", 2, x.file(0, 4));
     check.due("with that name alone", 1, x.ofFile(0, 4, 0));
+    x.create(0, 7);
+    x.write(0, 7, 0, 4, 5, 1);
+    rename(x, 0, 4, 7, false);
+    check.due("what is gone, and was not committed, is free at once", 40, x.free(0));
   }
 
   private static void renameExchanging() {

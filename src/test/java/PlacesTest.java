@@ -102,6 +102,12 @@ public final class PlacesTest {
     check.due("and packed it takes one", 1, x.write(0, 4, 12, 4, 1, 0));
     check.due("on the disk 0", 0, x.free(0));
     check.due("and on the disk 1", 3, x.free(1));
+    x.punch(0, 4, 12, 4);
+    x.profile(Treebark.SINGLE);
+    x.write(0, 4, 3, 3, 1, 1);
+    x.profile(Treebark.MIRROR);
+    check.due("one is left on each", 2, x.free(0) + x.free(1));
+    check.due("which is just enough", 1, x.write(0, 4, 12, 1, 1, 0));
   }
 
   private static void writeWrongly() {
@@ -152,6 +158,8 @@ public final class PlacesTest {
     check.due("so there is room for one", 1, x.write(0, 0, 6, 1, 1, 0));
     check.state(x, "but for no two", () -> x.write(0, 0, 7, 1, 1, 0));
     check.due("nor is it more than it was", 1, x.write(0, 0, 6, 2, 1, 0));
+    x.limits(0, 1000, 0);
+    check.due("above the limit of its own, but not above what it was", 1, x.write(0, 0, 6, 2, 3, 0));
     x.limits(0, 1000, 1000);
     x.profile(Treebark.MIRROR);
     x.limits(0, x.ofTree(0, 1) + 1, 1000);
@@ -232,6 +240,7 @@ public final class PlacesTest {
     check.outside(x, "no other place", () -> x.clone(0, 0, 0, 1, 0, 1, 16));
     check.outside(x, "the last one is no place", () -> x.clone(0, 0, 9, 8, 0, 1, 0));
     check.outside(x, "the other last one is no place", () -> x.clone(0, 0, 0, 8, 0, 1, 9));
+    check.outside(x, "no tree, and too many", () -> x.clone(2, 0, 0, 17, 0, 1, 0));
     check.outside(x, "no other tree, and too many", () -> x.clone(0, 0, 0, 17, 2, 1, 0));
     check.outside(x, "no other place, and too many", () -> x.clone(0, 0, 0, 17, 0, 1, -1));
     check.argument(x, "too many", () -> x.clone(0, 0, 0, 17, 0, 1, 0));
