@@ -32,6 +32,12 @@ final class Check {
   /** The call throws just this exception, and nothing that can be seen is another thing behind it. */
   void refused(Class<? extends Exception> want, Treebark x, String what, Call call) {
     List<Object> before = picture(x);
+    throwing(want, what, call);
+    due("what is seen after " + what, before, picture(x));
+  }
+
+  /** The call throws just this exception; that nothing is changed is left to others. */
+  void throwing(Class<? extends Exception> want, String what, Call call) {
     Object got;
     try {
       got = call.run();
@@ -39,7 +45,6 @@ final class Check {
       got = e.getClass();
     }
     due(what, want, got);
-    due("what is seen after " + what, before, picture(x));
   }
 
   void outside(Treebark x, String what, Call call) {
