@@ -127,6 +127,23 @@ public final class EdgesOfCommitsTest {
     check.due("both come back", 2, x.crash());
     check.due("as it was logged last", 20, x.read(0, 0, 0));
 
+    Treebark w = twoFiles();
+    w.write(0, 0, 4, 4, 1, 0);
+    w.log(0, 0);
+    w.punch(0, 0, 4, 4);
+    check.due("places of the earlier one are in use", 77, w.free(0) + w.free(1));
+    check.due("in place of it", 1, w.log(0, 0));
+    check.due("they are not", 78, w.free(0) + w.free(1));
+    check.due("nor found", 78, w.freeAnew(0) + w.freeAnew(1));
+    w.write(0, 0, 4, 4, 1, 0);
+    w.log(0, 0);
+    w.log(0, 0);
+    check.due("logged once more they are", 77, w.free(0) + w.free(1));
+    w.unlink(0, 0);
+    check.due("without the name, too", 77, w.free(0) + w.free(1));
+    w.commit();
+    check.due("until the log is empty", 79, w.free(0) + w.free(1));
+
     Treebark y = twoFiles();
     y.log(0, 0);
     y.rename(0, 0, 1, false);

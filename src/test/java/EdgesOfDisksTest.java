@@ -435,6 +435,20 @@ public final class EdgesOfDisksTest {
     check.due("it is LOST", Treebark.LOST, x.read(0, 0, 0));
   }
 
+  private static void newOnesAreGood() {
+    check.promise("a copy becomes bad by damage: not when it is made");
+    Treebark x = files(1);
+    x.profile(Treebark.MIRROR);
+    for (int i = 0; i < 10; i++) {
+      check.due("where bad ones were", 4, x.write(0, 0, 12, 4, i, 1));
+      check.due("it is good", i + 3, x.read(0, 0, 15));
+      x.damage(0, 0, 0, 12);
+      x.damage(1, 0, 0, 12);
+      check.due("and bad", Treebark.LOST, x.read(0, 0, 15));
+    }
+    check.due("nothing was mended", 0, x.mended() + x.scrub());
+  }
+
   private static void profileEdges() {
     check.promise("25, profile: of new extents");
     Treebark x = files(1);
@@ -469,6 +483,7 @@ public final class EdgesOfDisksTest {
     balanceEdges();
     balanceLoses();
     damageEdges();
+    newOnesAreGood();
     profileEdges();
     check.end();
   }

@@ -123,8 +123,10 @@ public final class EdgesOfSendingTest {
     x.write(0, 0, 5, 1, 55, 0);
     x.write(0, 0, 7, 1, 57, 0);
     x.branch(0, true);
-    check.due("seven cells and a hole, but for the place 2", 7, x.send(1, 2));
+    check.due("six cells and a hole, but for the place 2", 7, x.send(1, 2));
+    int free = x.free(0) + x.free(1);
     x.receive(1);
+    check.due("each takes as many blocks as it has cells", 2 + 3 + 1, free - x.free(0) - x.free(1));
     check.due("two, three, one, and the old ones of 2 and of the last places", 3 + 1 + 2, x.ofFile(3, 0, 1));
     check.due("two", 2, x.references(3, 0, 0));
     check.due("three", 3, x.references(3, 0, 5));
@@ -160,6 +162,25 @@ public final class EdgesOfSendingTest {
     x.clone(1, 0, 0, 16, 0, 0, 0);
     x.branch(0, true);
     check.due("without a file of its number: all that are no hole, though they are the very same", 5, x.send(1, 4));
+  }
+
+  /** Each place with another cell of the same extent, which reads alike. */
+  private static void whichCell() {
+    Treebark x = new Treebark();
+    x.create(0, 0);
+    x.write(0, 0, 0, 4, 7, 0);
+    x.branch(0, true);
+    for (int at = 0; at < 4; at++) {
+      x.clone(1, 0, 0, 4, 0, 0, 0);
+      int copied = x.branch(0, true);
+      check.due("the very same cells", 0, x.send(1, copied));
+      x.drop(copied);
+      x.clone(1, 0, (at + 1) % 4, 1, 0, 0, at);
+      int changed = x.branch(0, true);
+      check.due("another cell in the place " + at, 1, x.send(1, changed));
+      check.due("which reads alike", true, x.areAlike(1, changed));
+      x.drop(changed);
+    }
   }
 
   private static void sentTo() {
@@ -219,6 +240,32 @@ public final class EdgesOfSendingTest {
     check.due("it stays without the trees, and again and again", 1, x.receive(4));
     check.due("onto another one", 5, x.read(1, 0, 0));
     check.due("as its value, in an extent of its own", 1, x.ofTree(1, 2));
+  }
+
+  /** What was sent with other names, or with more files and places, leaves nothing behind. */
+  private static void nothingOfBefore() {
+    Treebark x = new Treebark();
+    x.create(0, 5);
+    x.write(0, 5, 3, 1, 5, 0);
+    x.branch(0, true);
+    for (int name = 0; name < 10; name++) {
+      if (name != 5) {
+        x.create(0, name);
+        x.write(0, name, 0, 1, name, 0);
+      }
+    }
+    x.branch(0, true);
+    for (int i = 0; i < 5; i++) {
+      check.due("nine files", 9, x.send(1, 2));
+      check.due("nine files less", 0, x.send(2, 1));
+      check.due("nine files once more", 9, x.send(1, 2));
+      check.due("one file", 0, x.send(1, 1));
+    }
+    check.due("just one", 3, x.receive(1));
+    check.due("its name", 32, x.ofTree(3, 0));
+    check.due("its places", 5, x.read(3, 5, 3));
+    check.due("and no others", 15, x.ofFile(3, 5, 2));
+    check.due("no number was given", 10, x.create(x.branch(1, false), 0));
   }
 
   private static void lowestName() {
@@ -326,9 +373,17 @@ public final class EdgesOfSendingTest {
     x.branch(0, true);
     x.limits(2, 0, 0);
     x.send(1, 2);
-    check.due("above all limits", 3, x.receive(1));
+    x.branch(0, false);
+    x.limits(3, 0, 0);
+    x.drop(3);
+    check.due("above all limits, also of one that had its number", 3, x.receive(1));
     x.branch(3, false);
     check.due("limits are 1000", 4, x.write(4, 0, 4, 4, 1, 1));
+    x.limits(0, 1000, 0);
+    x.drop(4);
+    x.branch(3, false);
+    check.due("both", 4, x.write(4, 0, 4, 4, 1, 1));
+    x.limits(0, 1000, 1000);
     check.due("blocks of its own, as of the one that was made of it", 0, x.ofTree(3, 2));
     check.due("it refers to", 4, x.ofTree(3, 1));
     x.drop(4);
@@ -379,8 +434,10 @@ public final class EdgesOfSendingTest {
     runs();
     runsAround();
     whatIsSent();
+    whichCell();
     sentTo();
     inPlaceOfBefore();
+    nothingOfBefore();
     lowestName();
     ofNone();
     counts();

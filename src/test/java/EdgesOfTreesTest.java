@@ -224,6 +224,23 @@ public final class EdgesOfTreesTest {
     check.due("and just that", 1, x.ofFile(0, 9, 2));
   }
 
+  /** Each cell of an extent in each place. */
+  private static void cloneCells() {
+    Treebark x = new Treebark();
+    x.create(0, 0);
+    x.create(0, 9);
+    for (int place = 0; place < 16; place += 5) {
+      x.write(0, 0, Math.min(place, 12), 4, 100, 10);
+      for (int cell = 0; cell < 4; cell++) {
+        for (int to = 0; to < 16; to++) {
+          x.clone(0, 0, Math.min(place, 12) + cell, 1, 0, 9, to);
+          check.due("the cell " + cell + " in the place " + to, 100 + 10 * cell, x.read(0, 9, to));
+        }
+        check.due("one extent in all places", 1, x.ofFile(0, 9, 1));
+      }
+    }
+  }
+
   private static void dedupeEdges() {
     check.promise("10, dedupe: if all are no holes and read alike in both");
     Treebark x = new Treebark();
@@ -445,6 +462,10 @@ public final class EdgesOfTreesTest {
     x.create(0, 9);
     x.create(other, 8);
     check.due("as many names", false, x.areAlike(0, other) || x.areAlike(other, 0));
+    x.rename(other, 8, 9, false);
+    check.due("the same names", true, x.areAlike(0, other) && x.areAlike(other, 0));
+    x.write(0, 9, 15, 1, 1, 0);
+    check.due("the last place of the last name", false, x.areAlike(0, other) || x.areAlike(other, 0));
     for (int tree : new int[] {-1, 2, 6, LEAST, MOST}) {
       outside("areAlike(0, " + tree + ")", () -> x.areAlike(0, tree));
       outside("areAlike(" + tree + ", 0)", () -> x.areAlike(tree, 0));
@@ -511,6 +532,7 @@ public final class EdgesOfTreesTest {
     sixteenPlaces();
     punchEdges();
     cloneEdges();
+    cloneCells();
     dedupeEdges();
     snapshots();
     copiedRoots();
