@@ -19,10 +19,10 @@ public final class RandomRuns {
 
   private RandomRuns(int seed) {
     random = new Random(seed);
-    names = 2 + random.nextInt(9);
+    kind = random.nextInt(5);
+    names = 2 + random.nextInt(kind == 2 ? 4 : 9);
     values = random.nextBoolean() ? 3 : 1000;
     wrongs = random.nextInt(3) == 0 ? 12 : 60;
-    kind = random.nextInt(5);
   }
 
   static Object outcome(Callable<Object> call) {
@@ -93,6 +93,9 @@ public final class RandomRuns {
   }
 
   private boolean call() {
+    if (kind == 2 && random.nextBoolean()) {
+      return random.nextBoolean() ? callOfNames() : callOfLog();
+    }
     switch (random.nextInt(8)) {
       case 0:
         return callOfNames();
@@ -132,6 +135,22 @@ public final class RandomRuns {
           return 0;
         });
       }
+    }
+  }
+
+  /** Few names, logged and changed often, so that files of the log take names of one another. */
+  private boolean callOfLog() {
+    int t = tree(random.nextInt(4) == 0);
+    int n = nameIn(t);
+    switch (random.nextInt(8)) {
+      case 0:
+        return same("crash()", () -> real.crash(), () -> naive.crash());
+      case 1:
+        return random.nextBoolean() || same("commit()", () -> real.commit(), () -> naive.commit());
+      case 2:
+        return callOfSending();
+      default:
+        return same("log(" + t + ", " + n + ")", () -> real.log(t, n), () -> naive.log(t, n));
     }
   }
 
